@@ -7,6 +7,7 @@ import java.util.Arrays;
 public final class GhostTrain {
     public static final int NONE = -1000000, BAD = -1000001, STATE = -1000002, FULL = -1000003;
 
+    /** Findings are answered as FINDING less their number. */
     private static final int FINDING = -1000010;
     private static final int NULL = 1, PLACE = 2, KIND = 3, SIZE = 4, STORE = 5;
     private static final int FAULT_PLACE = -1000100;
@@ -1367,26 +1368,28 @@ public final class GhostTrain {
             if (!within(kind, 0, KINDS - 1)) {
                 return NONE;
             }
-            return give(train, one, what == 0 ? SIZE_BODY[kind] : MARK_BODY[kind], 0);
+            return give(this, train, one, what == 0 ? SIZE_BODY[kind] : MARK_BODY[kind], 0);
         }
 
-        private int give(Train train, int one, int body, int depth) {
+        /** What a body gives; it asks others of the same trick by the trick's own kind, as if anew. */
+        private static int give(Asker to, Train of, int one, int body, int depth) {
             if (depth > DEEPEST) {
                 return 0;
             }
-            begins(body);
+            to.begins(body);
+            int kind = of.kind[one];
             int next = depth + 1;
             switch (body) {
-                case 10: return train.power[one];
-                case 11: return give(train, one, 10, next) + give(train, one, MARK_BODY[train.kind[one]], next);
-                case 12: return 0 - give(train, one, 11, next);
-                case 13: return give(train, one, 10, next) - 100;
-                case 14: return 2 * give(train, one, 13, next);
+                case 10: return of.power[one];
+                case 11: return give(to, of, one, 10, next) + give(to, of, one, MARK_BODY[kind], next);
+                case 12: return 0 - give(to, of, one, 11, next);
+                case 13: return give(to, of, one, 10, next) - 100;
+                case 14: return 2 * give(to, of, one, 13, next);
                 case 20: return one;
-                case 21: return give(train, one, 20, next) + train.met[one];
-                case 22: return give(train, one, 21, next) - 1000;
-                case 23: return give(train, one, 20, next) - give(train, one, SIZE_BODY[train.kind[one]], next);
-                case 24: return 2 * give(train, one, 21, next);
+                case 21: return give(to, of, one, 20, next) + of.met[one];
+                case 22: return give(to, of, one, 21, next) - 1000;
+                case 23: return give(to, of, one, 20, next) - give(to, of, one, SIZE_BODY[kind], next);
+                case 24: return 2 * give(to, of, one, 21, next);
                 default: return 0;
             }
         }

@@ -124,6 +124,15 @@ public final class DoneTest {
         dueCar("bats odd", x, 2, 0, 10, 0, 0);
         C.due("met of the first", x.trick(0, 3), 3);
         C.due("met of the ghost", x.trick(4, 3), 2);
+        GhostTrain y = Check.of("g12;o3,2;o4,1;o5,3;c1,60,1;");
+        int[] fears = {0, 0, 0, 2, 2, 5};
+        for (int i = 0; i < fears.length; i++) {
+            y.ticks(1);
+            C.due("ghosts behind " + y.count(3) + " ticks", y.car(0, 4), fears[i]);
+        }
+        y.ticks(6);
+        C.due("it runs in cell 11", y.stand(2), 1);
+        C.due("cell(11, 0)", y.cell(11, 0), 0);
     }
 
     private static void hands() {

@@ -118,6 +118,8 @@ public final class ForetoldTest {
         // by a hand the first is frightened twice as much
         dueOrder("g4;h0,5;c1,11,1;c1,10,1;", 3, 1, 1, 0);
         dueOrder("g4;h0,5;c1,10,1;c1,11,1;", 3, 1, 0, 1);
+        dueOrder("g4;h0,5;c1,11,1;c1,11,1;c1,10,1;", 4, 1, 2, 0, 1);
+        dueOrder("g4;h0,5;c1,11,1;c1,11,1;c1,11,1;c1,10,1;", 4, 1, 3, 0, 1, 2);
         // without screams most should be out
         dueOrder("g4;s0,1;c1,60,1;c1,60,3;", 3, 0, 1, 0);
         dueOrder("g4;s0,1;c1,60,1;c1,60,3;", 5, 0, 0, 1);
@@ -217,6 +219,7 @@ public final class ForetoldTest {
         dueCalm("of one too afraid", x, 1, Check.NONE, Check.NONE);
         dueCalm("of several", Check.of("g4;s0,3;s0,3;s0,3;c1,5,1;"), 9, 2, 3);
         dueCalm("of several, one strong", Check.of("g4;s0,1;s0,2;s0,3;c1,4,1;"), 9, 1, 4);
+        dueCalm("of all five", Check.of("g4;s0,1;s1,1;s2,1;s3,1;s3,1;c1,1,1;"), 50, 5, 31);
         GhostTrain y = Check.of(ONE);
         y.ticks(3);
         dueCalm("of what was", y, 50, 0, 0);
