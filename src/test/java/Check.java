@@ -2,9 +2,11 @@
 final class Check {
     static final int NONE = -1000000, BAD = -1000001, STATE = -1000002, FULL = -1000003;
     static final int NULL = -1000011, PLACE = -1000012, KIND = -1000013, SIZE = -1000014, STORE = -1000015;
+    static final int MIN = Integer.MIN_VALUE, MAX = Integer.MAX_VALUE;
     private static final int SHOWN = 40;
 
     private final String name;
+    private String part = "";
     private int asked;
     private int wrong;
 
@@ -12,13 +14,29 @@ final class Check {
         this.name = name;
     }
 
+    /** What follows belongs to this part of the test, and is told with its name. */
+    void begin(String newPart) {
+        part = newPart + ": ";
+    }
+
     void due(String call, long got, long want) {
         asked++;
         if (got != want) {
-            wrong++;
-            if (wrong <= SHOWN) {
-                System.out.println(name + ": " + call + " answered " + got + ", due is " + want);
-            }
+            wrong(call + " answered " + got + ", due is " + want);
+        }
+    }
+
+    void dueSame(String what, String got, String want) {
+        asked++;
+        if (!got.equals(want)) {
+            wrong(what + ": " + got + ", due is " + want);
+        }
+    }
+
+    private void wrong(String text) {
+        wrong++;
+        if (wrong <= SHOWN) {
+            System.out.println(name + ": " + part + text);
         }
     }
 
