@@ -398,6 +398,11 @@ public final class EdgeDoneTest {
         of(FULLEST).foretold(31, "stand", 4);
     }
 
+    static void promise18InTheLastCellItRuns() {
+        Edge e = of("g12;s0,1;c1,60,1;").then("ticks", 12).foretold(1, "stand", 2).foretold(0, "stand", 3);
+        e.then("ticks", 1).foretold(0, "stand", 2).foretold(1, "stand", 3);
+    }
+
     static void promise18WithoutATrainStateIsAheadOfBad() {
         Edge e = new Edge(C);
         for (int what : new int[] {-1, 0, 4, 5, MIN, MAX}) {

@@ -287,6 +287,15 @@ public final class EdgeForetoldTest {
         }
     }
 
+    static void promise33TheCarTheTrickAndTheCellByTheirRests() {
+        // by 15 the first X is 252105: trick 1 into cell 1; the second is no multiple of 3
+        of("g4;s3,5;s3,7;c1,60,1;c1,60,1;").foretold(7, "drawn", 2, 15, 1);
+        // both are out, with fear 5 and 20: by 1 the first X is odd, by 2 even; by 3 it is odd, and a multiple of 3
+        Edge e = of("g4;m0,5;c1,60,3;c4,60,3;").due(3, "ticks", 4).foretold(25, "drawn", 0, 1, 1).then("flip", 0);
+        e.foretold(5, "drawn", 1, 1, 1).foretold(20, "drawn", 1, 2, 1);
+        e.then("flip", 0).foretold(25, "drawn", 1, 3, 1);
+    }
+
     static void promise33WhatIs0Or1() {
         Edge e = of(ONE).foretold(1, "drawn", 2, 1, 0).foretold(0, "drawn", 2, 1, 1);
         for (int what : new int[] {-1, 2, MIN, MAX}) {

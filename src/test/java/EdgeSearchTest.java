@@ -83,6 +83,15 @@ public final class EdgeSearchTest {
         dueOrder(e, 4, 0, 0, 2, 1);
     }
 
+    static void promise23WhateverChangesTheTrain() {
+        // it may be kept from call to call, but not when anything has changed
+        Edge e = of("g4;h0,5;c1,11,1;c1,10,1;").due(1, "order", 3, 0).due(11, "nerve", 0, 10).due(0, "order", 3, 0);
+        e.due(0, "undo").due(1, "order", 3, 0).due(0, "flip", 0).due(0, "order", 3, -1).due(0, "undo");
+        e.due(1, "order", 3, -1).due(1, "image", 0).due(0, "place", 0, 1).due(0, "order", 1, -1);
+        e.due(1, "restore", 0).due(1, "order", 1, -1).due(0, "order", 1, 1).due(0, "ticks", 2);
+        e.due(0, "order", 1, 0).reads("g4;s3,5;c1,11,1;c1,10,1;").due(0, "order", 1, -1);
+    }
+
     // ---- spot
 
     static void promise24TicksGoFrom1To50() {

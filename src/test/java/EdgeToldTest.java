@@ -298,6 +298,13 @@ public final class EdgeToldTest {
         spoilt("g4;s0,1;c1,1,1;001", 15, 1);
     }
 
+    static void promise07LettersEachByThemselves() {
+        spoilt("gg4;s0,1;c1,1,1;", 1, 1);
+        spoilt("g4;ss0,1;c1,1,1;", 4, 1);
+        spoilt("g4;s0,1;cc1,1,1;", 9, 1);
+        spoilt("g4;s0,1;s", 9, 1);
+    }
+
     static void promise07TheEndHasItsFaultBehindAllBytes() {
         for (int length = 0; length < SMALL.length(); length++) {
             spoilt(SMALL.substring(0, length), length, 1);
