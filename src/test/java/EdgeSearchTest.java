@@ -122,6 +122,12 @@ public final class EdgeSearchTest {
         f.foretold(1, "spot", 0, 1, 1);
     }
 
+    static void promise24NoCellBeyondTheLast() {
+        // found by trying many trains: there are more screams without the trick, but it must be in a cell
+        Edge e = of("g4;b0,1;s3,3;h0,2;m2,1;m1,3;c2,6,2;c2,7,3;c2,4,3;c2,6,3;");
+        e.foretold(0, "spot", 4, 4, 0).foretold(2, "spot", 4, 4, 1).then("flip", 4).foretold(3, "show", 4, 1);
+    }
+
     static void promise24OfSeveralTheLeast() {
         of("g4;s3,5;c1,5,1;").then("ticks", 2).foretold(2, "spot", 0, 2, 0).foretold(1, "spot", 0, 2, 1);
         of("g4;s3,5;c1,6,1;").foretold(0, "spot", 0, 50, 0).foretold(0, "spot", 0, 50, 1);
@@ -253,6 +259,11 @@ public final class EdgeSearchTest {
         Edge e = of("g4;s0,3;s0,3;c1,5,1;").then("flip", 0).then("flip", 1);
         dueTurns(e, 1, 0, 0, 0, 0, 0);
         dueTurns(of("g4;s0,5;c1,5,1;").then("flip", 0), 1, 0, 1, 0, 1, 0);
+    }
+
+    static void promise29FiveTricks() {
+        dueTurns(of(FIVE), 20, 1, 1, 0, 1, 0);
+        dueTurns(of(FIVE).then("flip", 0).then("flip", 4), 20, 0, 0, 0, 0, 0);
     }
 
     static void promise29ItMayBeBetterToDoNothing() {
